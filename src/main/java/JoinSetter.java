@@ -762,6 +762,7 @@ public final class JoinSetter {
         final int[] lastAt = new int[MOST_TYPED];
         final int[] letter = new int[MOST_TYPED];
         final int[] word = new int[MOST_TYPED];
+        final boolean[] blank = new boolean[MOST_TYPED];
         final int[] wordFrom = new int[MOST_TYPED];
         final int[] wordTo = new int[MOST_TYPED];
         final int[] unitOf = new int[MOST_TYPED];
@@ -796,17 +797,17 @@ public final class JoinSetter {
             for (int i = 0; i < typed.count; i++) {
                 int next = typed.letters[i];
                 boolean mark = script.isMark(next);
-                boolean blank = script.sort[next] == BLANK;
-                if (!blank && !inWord) {
+                boolean between = script.sort[next] == BLANK;
+                if (!between && !inWord) {
                     wordFrom[words] = count;
                     words++;
                     canStand = false;
                 }
-                inWord = !blank;
+                inWord = !between;
                 if (mark && canStand) {
                     standOn(count - 1, i, next);
                 } else {
-                    addUnit(i, next, blank ? NONE : words - 1);
+                    addUnit(i, next, between ? NONE : words - 1);
                     canStand = !mark;
                 }
                 if (inWord) {
@@ -820,6 +821,7 @@ public final class JoinSetter {
             lastAt[count] = i;
             letter[count] = next;
             word[count] = ofWord;
+            blank[count] = ofWord == NONE;
             lacksMark[count] = false;
             unitOf[i] = count;
             count++;
@@ -910,10 +912,6 @@ public final class JoinSetter {
                 }
             }
             return NONE;
-        }
-
-        boolean isBlank(int unit) {
-            return word[unit] == NONE;
         }
 
         int placeOf(int unit, int piece) {
@@ -1196,7 +1194,7 @@ public final class JoinSetter {
 
         /** Behind a blank, and at one, nothing of a word's pieces counts. */
         private int statesAt(int unit) {
-            if (units.isBlank(unit) || unit == 0 || units.isBlank(unit - 1)) {
+            if (units.blank[unit] || unit == 0 || units.blank[unit - 1]) {
                 return FREE + 1;
             }
             return bars ? STATES : SPENT + 1;
@@ -1232,7 +1230,7 @@ public final class JoinSetter {
 
         private int stateBehind(int unit, int state, int letter, int stretch) {
             int next = unit + script.length[letter];
-            if (next >= end || units.isBlank(next) || units.isBlank(unit)) {
+            if (next >= end || units.blank[next] || units.blank[unit]) {
                 return FREE;
             }
             if (state == SPENT || stretch > 0) {
@@ -1333,7 +1331,7 @@ public final class JoinSetter {
                 if (k + 1 >= count || !isFormOf(script, numbers[k + 1], letter, units.placeOf(unit, letter))) {
                     return k + 1;
                 }
-                boolean inWord = !units.isBlank(unit);
+                boolean inWord = !units.blank[unit];
                 boolean still = inWord && (!free || isBehindBar(units, into, unit));
                 int most = still ? 0 : script.facts[numbers[k + 1]][MOST];
                 if (k + 2 >= count || !within(numbers[k + 2], 0, most)) {

@@ -27,6 +27,7 @@ public final class LimitsTest {
             }
         }
         dearest();
+        allFull();
         DUE.end();
     }
 
@@ -246,5 +247,36 @@ public final class LimitsTest {
         }
         DUE.is("a line goes", x.line(0, 13, 200) >= 0 ? 1 : 0, 1);
         DUE.is("a paragraph goes", x.best(50) >= 0 ? 1 : 0, 1);
+    }
+
+    /** 60 letters with 8 ligatures, 200 forms, 80 letters of text, 260 numbers. */
+    private static void allFull() {
+        JoinSetter x = new JoinSetter();
+        for (int k = 0; k < 51; k++) {
+            x.letter(0);
+        }
+        x.letter(6);
+        for (int k = 0; k < 8; k++) {
+            DUE.is("ligature " + k, x.ligature(k, k + 1, -1, k % 2 == 0), 52 + k);
+        }
+        for (int k = 0; k < 200; k++) {
+            int letter = k == 0 ? 51 : k < 37 ? 52 + (k - 1) / 4 % 8 : (k - 37) / 4;
+            int place = k == 0 ? 0 : (k - 1) % 4;
+            x.form(letter, place, Float.floatToRawIntBits(1 + k % 3), k % 7, k % 5, k % 3);
+        }
+        DUE.is("letters", x.told(0), 60);
+        DUE.is("forms", x.told(1), 200);
+        for (int k = 0; k < 80; k++) {
+            x.type(k % 8 == 7 ? 51 : k % 30);
+        }
+        for (int k = 0; k < 260; k++) {
+            x.claim(k);
+        }
+        DUE.is("words", x.words(), 10);
+        int width = x.plain(0, 9);
+        DUE.is("plain", width > 0 ? 1 : 0, 1);
+        DUE.is("a line", x.line(0, 9, width) >= 0 ? 1 : 0, 1);
+        DUE.is("a paragraph", x.best(width), 0);
+        DUE.is("too much is claimed", x.check(0, 9), -100);
     }
 }

@@ -125,6 +125,18 @@ public final class MarkTest {
         y.form(2, 0, bits(4), 0, 0, 0);
         typed(y, 0, 1, 2);
         mark("a piece of no height", y, 0, 1, 0, -1, 0, 3, 0);
+        JoinSetter z = script(3, 2, 4, 6);
+        z.letter(3);
+        z.letter(4);
+        z.letter(2);
+        z.form(4, 0, bits(6), 0, 0, 0);
+        z.form(5, 0, bits(6), 0, 0, 0);
+        z.form(6, 0, bits(4), 5, 4, 0);
+        typed(z, 6, 4, 5, 0, 1, 2);
+        mark("no height, beyond its piece", z, 0, 1, 0, -1, 5, 5, 0);
+        mark("no height, beyond its piece", z, 1, 2, 0, -1, -4, -4, 0);
+        mark("across a mark of no height", z, 2, 4, 1, 4, 3, 9, 0);
+        mark("across a mark of no height", z, 3, 5, 1, 4, -8, -2, 0);
     }
 
     /** Stacks of 100 each on two pieces: the second stack would have to be lifted by more than 300. */

@@ -135,6 +135,9 @@ public final class TypedTest {
         }
         DUE.is("no more", x.undo(), -3);
         DUE.is("told(3)", x.told(3), 5);
+        for (int i = 0; i < 5; i++) {
+            DUE.is("text " + i, x.text(i), i);
+        }
         DUE.is("type goes on", x.type(0), 6);
         DUE.is("and is undone", x.undo(), 5);
         DUE.is("and no more", x.undo(), -3);
