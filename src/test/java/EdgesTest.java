@@ -10,7 +10,8 @@ import java.util.stream.Stream;
 
 /**
  * The runs under src/test/edges: the document's boundary cases, sentence by sentence. Every call that is refused, and
- * every one that only asks, is followed by all the questions there are: it must have changed nothing.
+ * every one that only asks, is followed by all the questions there are, as long as there is room for these: it must
+ * have changed nothing.
  */
 public final class EdgesTest {
     private static final Due DUE = new Due("EdgesTest");
